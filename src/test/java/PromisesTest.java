@@ -200,6 +200,7 @@ public final class PromisesTest {
         check.due("5: only the new pattern is asked", x.solutions(), 1);
         check.due("5: B no longer stands", x.values(B), -1);
         check.due("5: D no longer stands", x.values(D), -1);
+        check.due("5: the number of facts stays", x.add(7, 7, 7), 3);
     }
 
     private static void promise6Solutions() {
