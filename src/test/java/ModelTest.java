@@ -12,8 +12,9 @@ public final class ModelTest {
             int numbers = 2 + run % 7;
             TripleJoin x = new TripleJoin();
             Model model = new Model();
-            for (int call = 0; call < CALLS; call++) {
-                step("run " + run + " call " + call + ": ", x, model, numbers);
+            for (int i = 0; i < CALLS; i++) {
+                Call call = next(model, numbers);
+                check.due("run " + run + " call " + i + ": " + call, call.on(x), call.on(model));
             }
         }
         check.end();
@@ -37,66 +38,37 @@ public final class ModelTest {
         return below(15) == 0 ? below(14) - 6 : -1 - below(4);
     }
 
-    private static void step(String at, TripleJoin x, Model model, int numbers) {
+    private static Call next(Model model, int numbers) {
         int kind = below(24);
         if (kind < 9) {
-            changeFacts(at, x, model, numbers, kind);
-        } else if (kind < 14) {
-            changeQuestion(at, x, model, numbers, kind);
-        } else {
-            ask(at, x, model, numbers, kind);
+            String name = kind < 7 ? "add" : "remove";
+            return new Call(name, number(numbers), number(numbers), number(numbers));
         }
-    }
-
-    private static void changeFacts(String at, TripleJoin x, Model model, int numbers, int kind) {
-        int s = number(numbers);
-        int p = number(numbers);
-        int o = number(numbers);
-        String parts = "(" + s + ", " + p + ", " + o + ")";
-        if (kind < 7) {
-            check.due(at + "add" + parts, x.add(s, p, o), model.add(s, p, o));
-        } else {
-            check.due(at + "remove" + parts, x.remove(s, p, o), model.remove(s, p, o));
-        }
-    }
-
-    private static void changeQuestion(String at, TripleJoin x, Model model, int numbers, int kind) {
         if (kind == 9) {
-            x.clear();
-            model.clear();
-            return;
+            return new Call("clear");
         }
-        int s = place(numbers);
-        int p = place(numbers);
-        int o = place(numbers);
-        String parts = "(" + s + ", " + p + ", " + o + ")";
-        check.due(at + "pattern" + parts, x.pattern(s, p, o), model.pattern(s, p, o));
+        if (kind < 14) {
+            return new Call("pattern", place(numbers), place(numbers), place(numbers));
+        }
+        return ask(model, numbers, kind);
     }
 
-    private static void ask(String at, TripleJoin x, Model model, int numbers, int kind) {
-        int variable = variable();
-        int value = number(numbers);
-        int s = place(numbers);
-        int p = place(numbers);
-        int o = place(numbers);
+    private static Call ask(Model model, int numbers, int kind) {
         if (kind < 16) {
-            check.due(at + "solutions()", x.solutions(), model.solutions());
-        } else if (kind < 19) {
-            int k = below(model.solutions() + 2) - below(2);
-            String call = "solution(" + k + ", " + variable + ")";
-            check.due(at + call, x.solution(k, variable), model.solution(k, variable));
-        } else if (kind == 19) {
-            String call = "with(" + variable + ", " + value + ")";
-            check.due(at + call, x.with(variable, value), model.with(variable, value));
-        } else if (kind == 20) {
-            check.due(at + "values(" + variable + ")", x.values(variable), model.values(variable));
-        } else if (kind < 23) {
-            String call = "count(" + s + ", " + p + ", " + o + ")";
-            check.due(at + call, x.count(s, p, o), model.count(s, p, o));
-        } else {
-            int other = number(numbers);
-            String call = "has(" + value + ", " + other + ", " + value + ")";
-            check.due(at + call, x.has(value, other, value), model.has(value, other, value));
+            return new Call("solutions");
         }
+        if (kind < 19) {
+            return new Call("solution", below(model.solutions() + 2) - below(2), variable());
+        }
+        if (kind == 19) {
+            return new Call("with", variable(), number(numbers));
+        }
+        if (kind == 20) {
+            return new Call("values", variable());
+        }
+        if (kind < 23) {
+            return new Call("count", place(numbers), place(numbers), place(numbers));
+        }
+        return new Call("has", number(numbers), number(numbers), number(numbers));
     }
 }

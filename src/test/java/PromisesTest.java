@@ -1,16 +1,5 @@
 /** Each promise of the document in its own method: ordinary inputs, edges, wrong inputs. */
-public final class PromisesTest {
-    private static final int A = -1;
-    private static final int B = -2;
-    private static final int C = -3;
-    private static final int D = -4;
-    private static final int ANY = -1;
-    private static final int[] NOT_NUMBERS = {-1, -4, -5, 8, 64, Integer.MIN_VALUE, Integer.MAX_VALUE};
-    private static final int[] NOT_PLACES = {-5, 8, 64, 512, Integer.MIN_VALUE, Integer.MAX_VALUE};
-    private static final int[] NOT_VARIABLES = {0, 7, 1, -5, 8, Integer.MIN_VALUE, Integer.MAX_VALUE};
-
-    private static final Check check = new Check();
-
+public final class PromisesTest extends TestBase {
     public static void main(String[] args) {
         promise1NewObject();
         promise2AddOrdinary();
@@ -36,22 +25,6 @@ public final class PromisesTest {
         promise11Has();
         promise12RefusedChangesNothing();
         check.end();
-    }
-
-    private static TripleJoin withFacts(int... parts) {
-        TripleJoin x = new TripleJoin();
-        for (int i = 0; i < parts.length; i += 3) {
-            check.due("add", x.add(parts[i], parts[i + 1], parts[i + 2]), i / 3 + 1);
-        }
-        return x;
-    }
-
-    private static TripleJoin full() {
-        TripleJoin x = new TripleJoin();
-        for (int i = 0; i < 48; i++) {
-            check.due("add no. " + i, x.add(i / 8, i % 8, i % 3), i + 1);
-        }
-        return x;
     }
 
     private static void promise1NewObject() {
@@ -260,13 +233,7 @@ public final class PromisesTest {
     }
 
     private static void promise6ManySolutions() {
-        TripleJoin x = new TripleJoin();
-        for (int n = 0; n < 8; n++) {
-            x.add(n, 0, 0);
-        }
-        for (int variable = A; variable >= D; variable--) {
-            x.pattern(variable, 0, 0);
-        }
+        TripleJoin x = withAllChoices();
         check.due("6: all choices", x.solutions(), 4096);
         check.due("7: last solution, A", x.solution(4095, A), 7);
         check.due("7: last solution, D", x.solution(4095, D), 7);
